@@ -1192,8 +1192,8 @@ public final class ModelTest {
                     break;
                 }
                 case 7: same("ends" + args, x.ends(h, w % 4), m.ends(h, w % 4)); break;
-                case 8: homeCall(h, p, s, t); break;
-                case 9: thiefCall(h, p, s, t); break;
+                case 8: homeCalls(h, p); break;
+                case 9: homeCall(h, p, step(h), step(h), early()); break;
                 case 10: {
                     int what = pick(0, any(10, 15), w);
                     same("apart what" + what + args, x.apart(h, what), m.apart(h, what));
@@ -1272,8 +1272,33 @@ public final class ModelTest {
             }
         }
 
-        void homeCall(int h, int p, int s, int t) {
-            int to = any(0, 12);
+        /** A step that is there, mostly. */
+        int step(int h) {
+            House house = m.h(h);
+            return house == null || random.nextInt(20) == 0 ? any(0, 24) : random.nextInt(house.steps);
+        }
+
+        int early() {
+            return random.nextInt(3) == 0 ? any(0, 99) : random.nextInt(20);
+        }
+
+        /** Several errands that differ in one thing, because the class remembers the last one. */
+        void homeCalls(int h, int p) {
+            int from = step(h);
+            int to = step(h);
+            int t = early();
+            homeCall(h, p, from, to, t);
+            homeCall(h, p, step(h), to, t);
+            homeCall(h, p, from, step(h), t);
+            thiefCall(h, p, from, to, t);
+            thiefCall(h, p, step(h), to, t);
+            thiefCall(h, p, from, step(h), t);
+            thiefCall(h, p, from, to, early());
+            thiefCall(h, any(0, 5), from, to, t);
+            thiefCall(1 - h, p, from, to, t);
+        }
+
+        void homeCall(int h, int p, int s, int to, int t) {
             House house = m.h(h);
             int all = house == null ? 1 : (1 << house.flats.size()) - 1;
             int flats = random.nextInt(6) == 0 ? any(0, 63) : random.nextInt() & all & (random.nextBoolean() ? random.nextInt() : -1);
@@ -1284,8 +1309,7 @@ public final class ModelTest {
             same(call + " what" + what, x.home(h, p, s, to, t, flats, what), m.home(h, p, s, to, t, flats, what));
         }
 
-        void thiefCall(int h, int p, int s, int t) {
-            int to = any(0, 12);
+        void thiefCall(int h, int p, int s, int to, int t) {
             String call = "thief h" + h + " p" + p + " from" + s + " to" + to + " t" + t;
             same(call, x.thief(h, p, s, to, t, 0), m.thief(h, p, s, to, t, 0));
             int minutes = x.thief(h, p, s, to, t, 1);
@@ -1326,7 +1350,56 @@ public final class ModelTest {
             return b.length() > 600 ? houseText() : b.toString();
         }
 
+        /** A stair on which one's own treads are seldom loud and the echoes of others are, so that order counts. */
+        String muffledText() {
+            StringBuilder b = new StringBuilder();
+            int steps = pick(2, 3, 4, 6);
+            b.append("steps ").append(steps).append(";keep ").append(pick(0, 1, 2, 3, 6)).append(';');
+            for (int s = 0; s < steps; s++) {
+                b.append("carpet ").append(s).append(' ').append(pick(1, 2, 3)).append(';');
+            }
+            for (int i = 1 + random.nextInt(4); i > 0; i--) {
+                b.append("flat ").append(random.nextInt(steps)).append(" 0;");
+            }
+            int people = 2 + random.nextInt(4);
+            for (int p = 0; p < people; p++) {
+                b.append("person ").append(pick(0, 0, 1, 2)).append(' ').append(pick(1, 1, 2, 5, 6)).append(' ').append(pick(1, 1, 2)).append(';');
+            }
+            for (int p = 0; p < people; p++) {
+                b.append("walk ").append(p).append(' ').append(random.nextInt(12)).append(' ').append(random.nextInt(steps));
+                for (int g = random.nextInt(8); g >= 0; g--) {
+                    b.append(' ').append(random.nextInt(steps));
+                }
+                b.append(";");
+            }
+            for (int i = random.nextInt(5); i > 0; i--) {
+                b.append("change ").append(random.nextInt(people)).append(' ').append(random.nextInt(20));
+                b.append(' ').append(pick(0, 1, 2)).append(';');
+            }
+            return b.length() > 600 ? muffledText() : b.toString();
+        }
+
+        /** Sounds by which one of a house's people comes along now and then. */
+        String fittingText(House h) {
+            StringBuilder b = new StringBuilder();
+            int minute = 0;
+            for (int i = 1 + random.nextInt(10); i > 0; i--) {
+                int p = random.nextInt(h.people.size());
+                minute = Math.min(99, minute + pick(0, 1, 1, 2, 3));
+                b.append("heard ").append(random.nextInt(h.flats.size())).append(' ').append(minute).append(' ');
+                b.append(h.shoe(p, minute)).append(' ');
+                b.append(random.nextInt(3) > 0 ? "-" : String.valueOf(h.people.get(random.nextInt(h.people.size())).shoe));
+                b.append(";");
+                minute = random.nextInt(8) == 0 ? random.nextInt(100) : minute;
+            }
+            return b.toString();
+        }
+
         String readingText() {
+            House h = m.h(random.nextInt(2));
+            if (h != null && !h.people.isEmpty() && !h.flats.isEmpty() && random.nextInt(4) > 0) {
+                return fittingText(h);
+            }
             StringBuilder b = new StringBuilder();
             boolean close = random.nextBoolean();
             for (int i = random.nextInt(11); i > 0; i--) {
@@ -1366,7 +1439,7 @@ public final class ModelTest {
         for (int seed = 0; seed < seeds; seed++) {
             Pair pair = new Pair(new Random(seed));
             for (int i = 0; i < rounds; i++) {
-                pair.text(0, pair.houseText());
+                pair.text(0, pair.random.nextBoolean() ? pair.houseText() : pair.muffledText());
                 pair.text(1, pair.readingText());
                 pair.randomCalls(calls);
             }
@@ -1386,7 +1459,7 @@ public final class ModelTest {
 
     public static void main(String[] args) {
         int scale = args.length > 0 ? Integer.parseInt(args[0]) : 1;
-        evenings(300 * scale, 3, 40);
+        evenings(400 * scale, 3, 60);
         texts(300 * scale, 40);
         System.out.println(checks + " answers compared, " + wrong + " differ");
         if (wrong != 0) {

@@ -206,6 +206,16 @@ public final class PromiseTest {
         faulty(1, "heard 0 0 0 - 1;", 1, 14);
         faulty(1, "heard 0 0 0 --;", 1, 13);
         faulty(1, "steps 3;", 1, 0);
+        // What stood behind the end is no part of the text.
+        EchoStair x = new EchoStair();
+        give(x, "keep 123;");
+        x.end(7);
+        due("keep 12", x.text(0, -1), -1);
+        due("its end", x.fault(1), 7);
+        give(x, "keepx");
+        x.end(4);
+        due("keep", x.text(0, -1), -1);
+        due("its end", x.fault(1), 4);
         // A fault 1 anywhere goes ahead of all others.
         faulty(0, "steps 1;flat 99 99;x", 1, 19);
         faulty(0, times(7, "flat 1 0;") + "keep", 1, 67);
@@ -534,6 +544,9 @@ public final class PromiseTest {
         due("he waits for the softer shoe", x.home(0, 0, 0, 2, 5, 1, 0), 4);
         due("first staying", x.home(0, 0, 0, 2, 5, 1, 11), 0);
         due("then going", x.home(0, 0, 0, 2, 5, 1, 12), 1);
+        tell(x, 0, 0, "steps 3;keep 9;carpet 1 1;flat 2 0;person 0 1 2;person 0 2 1;person 0 3 1;walk 1 0 1 1;walk 2 0 0 0;");
+        due("half of 1, cut, is not loud", x.home(0, 0, 0, 1, 0, 1, 0), 1);
+        due("half of 3, cut, is 1, which is far off", x.home(0, 0, 1, 0, 0, 1, 0), 1);
         due("a house told anew", tell(x, 0, 0, "steps 3;person 2 2 1;"), 0);
         due("is planned anew", x.home(0, 0, 0, 2, 5, 0, 0), 2);
         tell(x, 0, 0, "steps 3;keep 9;flat 1 0;carpet 1 2;person 0 2 1;");
@@ -570,6 +583,12 @@ public final class PromiseTest {
         due("till minute 31", y.thief(0, 0, 0, 2, 0, 1), 31);
         due("and not for 61 minutes", y.thief(0, 0, 0, 2, 32, 0), 1);
         due("but goes at once", y.thief(0, 0, 0, 2, 32, 1), 1);
+        tell(y, 0, 0, "steps 2;flat 0 0;person 0 9 1;person 0 9 1;walk 1 1 1 1;");
+        due("covered by the very first tread", y.thief(0, 0, 0, 1, 0, 0), 0);
+        due("from the other step", y.thief(0, 0, 1, 1, 0, 1), 0);
+        due("from the first one again", y.thief(0, 0, 0, 1, 0, 1), 1);
+        due("in another minute", y.thief(0, 0, 0, 1, 1, 0), 1);
+        due("back, uncovered", y.thief(0, 0, 1, 0, 1, 0), 1);
         EchoStair z = with("steps 12;flat 6 9;person 0 9 4;");
         due("fewest treads", z.thief(0, 0, 0, 9, 0, 0), 3);
         due("the first by rows", z.thief(0, 0, 0, 9, 0, 10), 1);
@@ -710,6 +729,10 @@ public final class PromiseTest {
         due("no person", x.spots(0, 0, 2, 0), -2);
         due("no reading", x.spots(0, 1, 0, 0), -2);
         due("no house", x.spots(1, 0, 0, 0), -2);
+        tell(x, 1, 0, "heard 0 1 1 -;heard 1 3 1 -;");
+        due("the first is sure", x.spots(0, 0, 0, 0), 2);
+        due("and the second", x.spots(0, 0, 0, 1), 8);
+        due("both", x.spots(0, 0, 0, -1), 2);
         tell(x, 1, 0, "heard 1 4 1 -;heard 0 1 1 -;heard 0 2 1 1;");
         due("by minutes, not by numbers", x.spots(0, 0, 0, 0), 8);
         tell(x, 1, 0, "heard 0 1 1 -;heard 1 1 1 -;");
@@ -807,6 +830,12 @@ public final class PromiseTest {
         EchoStair b = with("steps 5;flat 0 9;person 0 1 1;walk 0 30 0 2 1;");
         due("busy", b.look(0, 1), 1);
         due("hollow behind 33", b.look(0, 0), 66);
+        tell(b, 0, 0, "steps 24;flat 12 9;person 9 9 1;walk 0 0 0 23 0 23 0;");
+        due("not quite hollow", b.look(0, 0), 7);
+        tell(b, 0, 0, "steps 24;flat 12 9;person 9 9 1;walk 0 0 0 23 0 23 0 23 0;");
+        due("never hollow", b.look(0, 0), 0);
+        tell(b, 0, 0, "steps 24;flat 12 9;person 9 9 1;person 9 9 1;walk 0 10 0 0;walk 1 59 0 0;");
+        due("hollow between", b.look(0, 0), 48);
         lookAtPeople();
     }
 
@@ -815,6 +844,10 @@ public final class PromiseTest {
         due("one couple", x.look(0, 2), 1);
         tell(x, 0, 0, "person 1 2 1;person 2 2 4;person 1 2 1;change 1 0 1;");
         due("three couples by a change", x.look(0, 2), 3);
+        tell(x, 0, 0, "person 1 2 1;person 2 2 1;change 1 1 1;");
+        due("no couple, for minute 0 alone", x.look(0, 2), 0);
+        tell(x, 0, 0, "steps 2;carpet 0 1;flat 0 0;person 9 1 1;walk 0 0 0 0;");
+        due("hire of the softest shoe", x.look(0, 30), 0);
         tell(x, 0, 0, "steps 2;carpet 0 9;flat 0 0;person 9 1 1;walk 0 0 0 0;change 0 0 9;");
         due("hire on a carpet", x.look(0, 30), 8);
         tell(x, 0, 0, "steps 2;carpet 0 1;flat 0 0;person 1 1 1;walk 0 0 0 0;change 0 10 0;");
