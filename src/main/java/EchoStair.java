@@ -256,37 +256,35 @@ public final class EchoStair {
     }
 
     public int home(int house, int person, int from, int to, int minute, int flats, int what) {
-        Evening e = eveningAt(house);
+        House h = houseAt(house);
         // A bit of flats beyond those that are there names a flat that is not there.
-        if (e == null || (flats & ~e.house.allFlats()) != 0 || !isErrand(e.house, person, from, to, minute)) {
-            return NONE;
-        }
-        if (route.isNew(house, person, from, to, minute, flats)) {
-            others.watch(e, person, minute + 1, MOST_WAY);
-            route.plan(e, others);
-        }
-        if (route.minutes == NONE) {
+        if (h == null || (flats & ~h.allFlats()) != 0 || !hasRoute(house, person, from, to, minute, flats)) {
             return NONE;
         }
         return what == 0 ? route.minutes : pick(route.row, what - 10, route.minutes, NONE);
     }
 
     public int thief(int house, int person, int from, int to, int minute, int what) {
-        Evening e = eveningAt(house);
-        if (e == null || !isErrand(e.house, person, from, to, minute)) {
-            return NONE;
-        }
-        if (route.isNew(house, person, from, to, minute, Route.THIEF)) {
-            others.watch(e, person, minute + 1, MOST_WAY);
-            route.plan(e, others);
-        }
-        if (route.minutes == NONE) {
+        if (!hasRoute(house, person, from, to, minute, Route.THIEF)) {
             return NONE;
         }
         if (what == 0) {
             return route.cost;
         }
         return what == 1 ? route.minutes : pick(route.row, what - 10, route.minutes, NONE);
+    }
+
+    /** Plans the route, if it is not the one planned last; false if there is none, or no such errand. */
+    private boolean hasRoute(int house, int person, int from, int to, int minute, int flats) {
+        Evening e = eveningAt(house);
+        if (e == null || !isErrand(e.house, person, from, to, minute)) {
+            return false;
+        }
+        if (route.isNew(house, person, from, to, minute, flats)) {
+            others.watch(e, person, minute + 1, MOST_WAY);
+            route.plan(e, others);
+        }
+        return route.minutes != NONE;
     }
 
     private static boolean isErrand(House h, int person, int from, int to, int minute) {
@@ -1545,11 +1543,8 @@ public final class EchoStair {
             int people = e.house.people;
             shoes = people == 0 ? 0 : 1;
             // As many shoes as people are always enough.
-            while (shoes < people && !giveOut(people, 0)) {
+            while (!giveOut(mixed, worn, shoes, people, 0) && shoes < people) {
                 shoes++;
-            }
-            if (shoes == people) {
-                giveOut(people, 0);
             }
         }
 
@@ -1573,22 +1568,22 @@ public final class EchoStair {
         }
 
         /** Dresses this one and all behind him, by the first way there is; false if there is none. */
-        private boolean giveOut(int people, int person) {
-            if (person >= people || person >= MOST_PEOPLE) {
+        private static boolean giveOut(int[] mixed, int[] worn, int shoes, int people, int person) {
+            if (person >= people || person >= worn.length) {
                 return true;
             }
             for (int s = 0; s < shoes; s++) {
                 worn[person] = s;
-                if (isFree(person, s) && giveOut(people, person + 1)) {
+                if (isFree(mixed, worn, person) && giveOut(mixed, worn, shoes, people, person + 1)) {
                     return true;
                 }
             }
             return false;
         }
 
-        private boolean isFree(int person, int shoe) {
+        private static boolean isFree(int[] mixed, int[] worn, int person) {
             for (int q = 0; q < person; q++) {
-                if (has(mixed[person], q) && worn[q] == shoe) {
+                if (has(mixed[person], q) && worn[q] == worn[person]) {
                     return false;
                 }
             }
