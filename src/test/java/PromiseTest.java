@@ -806,6 +806,10 @@ public final class PromiseTest {
         // 0 stays on 4; 1: 3 4 5 4 3 4 5 4. Above where it was not so a minute ahead: minutes 2, 4 and 6.
         due("who stays is still there", y.meet(0, 0, 1, false), 1);
         due("above again and again", y.meet(0, 0, 1, true), 3);
+        tell(y, 0, 0, "person 0 1 1;person 0 1 1;walk 0 0 4 4;walk 1 0 4 5;");
+        due("in the first minute", y.meet(0, 0, 1, false), 0);
+        tell(y, 0, 0, "person 0 1 1;person 0 1 1;walk 0 60 11 0 11;walk 1 60 0 0;");
+        due("in minute 71", y.meet(0, 0, 1, false), 71);
     }
 
     private static void look() {
@@ -856,6 +860,14 @@ public final class PromiseTest {
         due("late: ahead of the other one, in the same minute", x.look(0, 40), 0);
         tell(x, 0, 0, "steps 2;keep 5;carpet 0 1;flat 0 0;person 0 9 1;person 0 1 1;walk 0 0 0 0;walk 1 0 0 0;");
         due("late: behind the echo", x.look(0, 41), 6);
+        // He goes 0 1 0, unheard from minute 10 on; the other one treads on 0 in minute 10. If both tread there in that
+        // minute, the higher number is the later one, whose echo he wakes when he comes back.
+        tell(x, 0, 0, "steps 2;keep 5;carpet 0 1;carpet 1 1;flat 0 9;person 5 1 1;person 0 9 1;change 0 10 0;"
+            + "walk 0 0 0 1 0;walk 1 10 0 0;");
+        due("late: the other one is behind in the same minute", x.look(0, 40), 16);
+        tell(x, 0, 0, "steps 2;keep 5;carpet 0 1;carpet 1 1;flat 0 9;person 0 9 1;person 5 1 1;change 1 10 0;"
+            + "change 1 16 5;walk 1 0 0 1 0;walk 0 10 0 0;");
+        due("late: his own tread is the later one", x.look(0, 41), 10);
         tell(x, 0, 0, "steps 24;flat 0 9;person 9 9 1;walk 0 0 0 23 0 23;");
         due("late: the last minute cuts most", x.look(0, 40), 60);
         tell(x, 0, 0, "steps 24;flat 3 1;person 0 1 4;walk 0 0 6 6;");
