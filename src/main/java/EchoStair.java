@@ -70,14 +70,16 @@ public final class EchoStair {
     }
 
     public int text(int sort, int at) {
+        int bytes = told.size;
+        // The tape is taken by every call, also by one that may not come and so is not read.
+        told.size = 0;
         told.fault = 0;
         told.faultPlace = NONE;
         int number = placeFor(sort, at);
         if (number == NONE) {
             return ABSENT;
         }
-        reader.read(sort, told.size);
-        told.size = 0;
+        reader.read(sort, bytes);
         told.fault = reader.fault;
         told.faultPlace = reader.faultPlace;
         if (reader.fault != 0) {

@@ -458,12 +458,12 @@ public final class ModelTest {
         int text(int sort, int at) {
             now.fault = 0;
             now.place = NONE;
+            Parser p = new Parser(now.tape);
+            now.tape = new byte[0];
             int there = sort == 0 ? now.houses.size() : now.readings.size();
             if (sort != 0 && sort != 1 || at == NONE && there == 2 || at != NONE && !in(at, there)) {
                 return -2;
             }
-            Parser p = new Parser(now.tape);
-            now.tape = new byte[0];
             int number = at == NONE ? there : at;
             try {
                 if (sort == 0) {
@@ -1156,6 +1156,7 @@ public final class ModelTest {
             same("text", x.text(sort, at), m.text(sort, at));
             same("fault(0)", x.fault(0), m.fault(0));
             same("fault(1)", x.fault(1), m.fault(1));
+            same("end(1) behind text", x.end(1), m.end(1));
         }
 
         void randomCalls(int n) {

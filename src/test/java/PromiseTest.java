@@ -145,8 +145,9 @@ public final class PromiseTest {
         due("second house", tell(x, 0, -1, "steps 4;"), 1);
         due("first reading", tell(x, 1, -1, "heard 0 0 0 -;"), 0);
         due("a third house", tell(x, 0, -1, "steps 5;"), -2);
-        due("no text is read then", x.end(8), 8);
-        due("in the place of 1", x.text(0, 1), 1);
+        due("the tape is empty behind one too many", x.end(1), -1);
+        due("house 1 is as it was", x.house(1, 0), 4);
+        due("in the place of 1", tell(x, 0, 1, "steps 5;"), 1);
         due("house 1", x.house(1, 0), 5);
         due("house 0", x.house(0, 0), 3);
         due("no reading 1", tell(x, 1, 1, ""), -2);
@@ -165,6 +166,30 @@ public final class PromiseTest {
         due("is a house of 12 steps", x.house(0, 0), 12);
         due("an empty reading", tell(x, 1, 0, " \n "), 0);
         due("has no sounds", x.sound(0, -1, 0), 0);
+    }
+
+    private static void textRefused() {
+        promise = "4 text that may not come";
+        int[][] refused = {{0, 0}, {0, 1}, {0, -2}, {0, Integer.MAX_VALUE}, {1, 0}, {1, Integer.MIN_VALUE}, {2, -1}, {-1, 0}};
+        EchoStair x = new EchoStair();
+        for (int[] call : refused) {
+            due("feed", x.feed(0, 0, 0, 0, 0), 20);
+            due("text", x.text(call[0], call[1]), -2);
+            due("the tape is empty", x.end(1), -1);
+            due("no fault", x.fault(0), 0);
+            due("no place", x.fault(1), -1);
+        }
+        due("no house", x.count(0), 0);
+        due("no reading", x.count(1), 0);
+        due("a reading", tell(x, 1, -1, "heard 0 0 0 -;"), 0);
+        due("another reading", tell(x, 1, -1, ""), 1);
+        due("one too many, with a fault in it", tell(x, 1, -1, "heard"), -2);
+        due("no fault is told of it", x.fault(0), 0);
+        due("the tape is empty", x.feed(0, 0, 0, 0, 0), 20);
+        x.image(0);
+        due("refused behind an image", x.text(0, 0), -2);
+        due("again has the tape back", x.again(0), true);
+        due("all of it", x.end(20), 20);
     }
 
     private static void faultOfTokens() {
@@ -952,6 +977,7 @@ public final class PromiseTest {
         feed();
         end();
         text();
+        textRefused();
         faultOfTokens();
         faultOfNumbers();
         faultOfCounts();
