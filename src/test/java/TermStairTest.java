@@ -226,7 +226,7 @@ public final class TermStairTest {
         due("step of the last", x.tread(0, 39, 1), 7);
         due("no further", x.tread(0, 40, 2), -2);
         due("on it at the end", x.person(0, 0, 7), 7);
-        // From 0 to 23 and, by 17 more, to 6: there in minute 99, neither cut nor short.
+        // From 0 to 23 and, 16 more, to 7: he is there just in minute 99.
         EchoStair y = house("steps 24;person 0 1 1;walk 0 60 0 23 7;");
         due("the last tread falls in 99", y.person(0, 0, 6), 99);
         due("on its goal", y.person(0, 0, 7), 7);
