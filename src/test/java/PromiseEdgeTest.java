@@ -111,6 +111,11 @@ public final class PromiseEdgeTest {
         }
     }
 
+    private static void constants() {
+        says("The constants: `NONE = -1`: There is none.");
+        due("NONE", EchoStair.NONE, -1);
+    }
+
     private static void newObject() {
         says("1: No HOUSES, READINGS; no images.");
         EchoStair x = new EchoStair();
@@ -119,7 +124,6 @@ public final class PromiseEdgeTest {
         due("again(0)", x.again(0), false);
         due("again(1)", x.again(1), false);
         due("again(2)", x.again(2), false);
-        due("NONE", EchoStair.NONE, -1);
         due("the tape is empty", x.end(1), NONE);
         due("no fault", x.fault(0), 0);
         due("no place", x.fault(1), NONE);
@@ -206,6 +210,23 @@ public final class PromiseEdgeTest {
         due("the eighth is gone", x.end(8), NONE);
         due("a text that ends", x.text(0, 0), NONE);
         due("at 7", x.fault(1), 7);
+        // What stood behind the first n is no part of the last token.
+        give(x, "keepx 1;");
+        x.end(4);
+        due("a word that ends", x.text(0, 0), NONE);
+        due("at 4", x.fault(1), 4);
+        give(x, "keep 123;");
+        x.end(7);
+        due("a number that ends", x.text(0, 0), NONE);
+        due("at 7", x.fault(1), 7);
+        give(x, "keep 1  ;");
+        x.end(6);
+        due("no blanks behind it", x.text(0, 0), NONE);
+        due("at 6", x.fault(1), 6);
+        give(x, "carpet 12 1;    ");
+        x.end(12);
+        due("a step that is not there", x.text(0, 0), NONE);
+        due("at 12", x.fault(1), 12);
     }
 
     private static void endRefused() {
@@ -262,6 +283,118 @@ public final class PromiseEdgeTest {
         due("sounds", x.sound(0, NONE, 0), 1);
         due("a second reading", tell(x, 1, NONE, ""), 1);
         due("there are two", x.count(1), 2);
+    }
+
+    /** Answers to questions of all kinds about house 0 and reading 0: 194 calls, so that two rounds stay below 512. */
+    private static long[] askAll(EchoStair x) {
+        long[] all = new long[300];
+        int n = 0;
+        for (int what = 0; what < 5; what++) {
+            all[n++] = x.house(0, what);
+        }
+        for (int p = 0; p < 6; p++) {
+            all[n++] = x.person(0, p, 0);
+            all[n++] = x.person(0, p, 5);
+            all[n++] = x.person(0, p, 6);
+            all[n++] = x.person(0, p, 7);
+            all[n++] = x.person(0, p, 150);
+            all[n++] = x.where(0, p, 9);
+            all[n++] = x.apart(0, 10 + p);
+            all[n++] = x.track(0, 0, p);
+            all[n++] = x.spots(0, 0, p, 0);
+            all[n++] = x.spots(0, 0, p, NONE);
+            all[n++] = x.drawn(0, 1, 50, 10 + p);
+            all[n++] = x.look(0, 30 + p);
+            all[n++] = x.look(0, 40 + p);
+            all[n++] = x.home(0, p, 0, 2, 0, 1, 0);
+            all[n++] = x.thief(0, p, 0, 2, 0, 0);
+            all[n++] = x.thief(0, p, 0, 2, 0, 1);
+            all[n++] = x.meet(0, 0, p, true);
+            all[n++] = x.meet(0, p, 1, false);
+        }
+        for (int f = 0; f < 6; f++) {
+            all[n++] = x.note(0, f, NONE, 0);
+            all[n++] = x.note(0, f, NONE, 1);
+            all[n++] = x.note(0, f, 2, 0);
+            all[n++] = x.note(0, f, 5, 0);
+            all[n++] = x.drawn(0, 1, 50, 20 + f);
+            all[n++] = x.look(0, 10 + f);
+            all[n++] = x.look(0, 20 + f);
+        }
+        for (int what = 0; what < 3; what++) {
+            all[n++] = x.ends(0, what);
+            all[n++] = x.look(0, what);
+            all[n++] = x.worth(0, what, 1);
+            all[n++] = x.makers(0, 0, what);
+        }
+        for (int k = NONE; k < 5; k++) {
+            all[n++] = x.tread(0, k, 0);
+            all[n++] = x.tread(0, k, 7);
+            all[n++] = x.ring(0, k);
+            all[n++] = x.sound(0, k, 0);
+        }
+        all[n++] = x.apart(0, 0);
+        all[n++] = x.worth(0, NONE, 2);
+        all[n++] = x.makers(0, 0, NONE);
+        return all;
+    }
+
+    private static void nothingIsLeft() {
+        says("4: or in the place of one");
+        String loud = "steps 24;keep 99;flat 0 9;flat 5 9;flat 9 9;flat 14 9;flat 19 9;flat 23 9;"
+            + "person 9 9 1;person 8 8 1;person 7 7 1;person 6 6 1;person 5 5 1;person 4 4 4;"
+            + "walk 0 0 0 23 0 23 0 23 0 23 0;walk 1 0 0 23 0 23 0 23 0 23 0;walk 2 0 0 23 0 23 0 23 0 23 0;"
+            + "walk 3 0 0 23 0 23 0 23 0 23 0;walk 4 0 0 23 0 23 0 23 0 23 0;walk 5 0 0 23 1 23 1 23 1 23 1;"
+            + "change 0 9 1;change 1 9 1;change 2 9 1;change 3 9 1;carpet 1 9;carpet 22 9;";
+        String sounds = "heard 0 1 9 -;heard 1 2 9 9;heard 2 3 9 8;heard 3 4 9 -;heard 4 5 9 -;heard 5 6 9 -;";
+        String[] soft = {"", "steps 3;flat 0 0;flat 2 0;person 0 1 1;person 1 1 1;walk 0 0 0 1;walk 1 1 1 1;",
+            "steps 4;keep 0;carpet 0 9;carpet 3 9;flat 3 1;person 4 2 1;person 0 3 1;person 0 3 1;walk 1 0 0 0;walk 2 60 3 2;"};
+        for (String text : soft) {
+            EchoStair fresh = house(text);
+            tell(fresh, 1, NONE, "heard 0 1 1 7;");
+            EchoStair used = house(loud);
+            tell(used, 1, NONE, sounds);
+            long[] former = askAll(used);
+            due("in its place", tell(used, 0, 0, text), 0);
+            due("in its place", tell(used, 1, 0, "heard 0 1 1 7;"), 0);
+            long[] want = askAll(fresh);
+            long[] got = askAll(used);
+            int others = 0;
+            for (int i = 0; i < want.length; i++) {
+                due("question " + i + " of all about " + text, got[i], want[i]);
+                others += former[i] == want[i] ? 0 : 1;
+            }
+            due("the former house was another one", others > 50, true);
+        }
+    }
+
+    private static void houseByHouse() {
+        says("4: a further one (at NONE)");
+        // Two houses with the same errands and reckonings, asked in turn.
+        EchoStair x = house("steps 24;flat 0 9;person 0 1 1;person 0 1 1;person 0 1 1;walk 0 0 0 0;walk 1 0 1 1;walk 2 0 1 1;"
+            + "carpet 23 1;change 0 1 1;");
+        due("a second house", tell(x, 0, NONE, "steps 3;flat 0 9;person 0 1 2;person 0 1 1;person 0 1 1;walk 0 0 2 2;"), 1);
+        due("no changes in it", x.house(1, 4), 0);
+        for (int i = 0; i < 2; i++) {
+            due("home in 0", x.home(0, 0, 0, 2, 0, 0, 0), 2);
+            due("home in 1", x.home(1, 0, 0, 2, 0, 0, 0), 1);
+            due("shoes in 0", x.apart(0, 0), 3);
+            due("shoes in 1", x.apart(1, 0), 1);
+            due("busy in 0", x.look(0, 1), 1);
+            due("busy in 1", x.look(1, 1), 2);
+            due("best in 0", x.worth(0, NONE, 1), 1);
+            due("best in 1", x.worth(1, NONE, 1), 2);
+            due("treads in 0", x.tread(0, NONE, 0), 3);
+            due("treads in 1", x.tread(1, NONE, 0), 1);
+        }
+        due("the same errand in a house told anew", x.home(1, 0, 0, 2, 0, 0, 0), 1);
+        due("told anew", tell(x, 0, 1, "steps 3;flat 0 9;person 0 1 1;"), 1);
+        due("home", x.home(1, 0, 0, 2, 0, 0, 0), 2);
+        due("a thief", x.thief(1, 0, 0, 2, 0, 0), 2);
+        due("told anew", tell(x, 0, 1, "steps 3;person 0 1 1;"), 1);
+        due("a thief whom nobody hears", x.thief(1, 0, 0, 2, 0, 0), 0);
+        due("the very first errand", house("person 0 1 1;").home(0, 0, 0, 0, 0, 0, 0), 0);
+        due("the very first thief", house("person 0 1 1;").thief(0, 0, 0, 0, 0, 1), 0);
     }
 
     private static void textWithAFault() {
@@ -428,8 +561,11 @@ public final class PromiseEdgeTest {
         says("8: -2: there is none such (of either), or for another what.");
         EchoStair x = stair();
         others("tread(0, 0, ..)", n -> x.tread(0, 0, n), -2, 0, 1, 2, 3, 4, 5, 6, 7);
-        EchoStair y = stair();
-        others("tread", n -> y.tread(0, n, 1), -2, 0, 1, 2, 3, 4, 5, 6, 7);
+        for (int what = 0; what < 8; what++) {
+            EchoStair y = stair();
+            int asked = what;
+            others("tread, what " + what, n -> y.tread(0, n, asked), -2, span(what == 0 ? NONE : 0, 7));
+        }
         EchoStair z = stair();
         others("how many, another what", n -> z.tread(0, NONE, n), -2, 0);
         EchoStair h = stair();
@@ -489,8 +625,11 @@ public final class PromiseEdgeTest {
         others("what", n -> x.note(0, 0, 0, n), -2, 0, 1, 2, 3);
         EchoStair y = stair();
         others("what of all", n -> y.note(0, 0, NONE, n), -2, 0, 1);
-        EchoStair z = stair();
-        others("note", n -> z.note(0, 0, n, 2), -2, 0, 1, 2, 3);
+        for (int what = 0; what < 4; what++) {
+            EchoStair z = stair();
+            int asked = what;
+            others("note, what " + what, n -> z.note(0, 0, n, asked), -2, span(what < 2 ? NONE : 0, 3));
+        }
         EchoStair f = stair();
         others("flat", n -> f.note(0, n, NONE, 0), -2, 0, 1);
         EchoStair h = stair();
@@ -658,8 +797,11 @@ public final class PromiseEdgeTest {
         others("what", n -> x.sound(0, 0, n), -2, 0, 1, 2, 3);
         EchoStair y = stair();
         others("what of all", n -> y.sound(0, NONE, n), -2, 0);
-        EchoStair k = stair();
-        others("sound", n -> k.sound(0, n, 1), -2, 0, 1, 2);
+        for (int what = 0; what < 4; what++) {
+            EchoStair k = stair();
+            int asked = what;
+            others("sound, what " + what, n -> k.sound(0, n, asked), -2, span(what == 0 ? NONE : 0, 2));
+        }
         EchoStair z = stair();
         others("reading", n -> z.sound(n, NONE, 0), -2, 0);
         tell(z, 1, 0, "");
@@ -808,6 +950,17 @@ public final class PromiseEdgeTest {
         due("none of 3", x.look(0, 43), -2);
         EchoStair y = house("flat 0 9;person 0 1 1;");
         due("busy without treads", y.look(0, 1), NONE);
+        // Each of six flats hears of one on its own step, each in another shoe, who had better begin in the minute of his
+        // softer shoe, but for the last, who is soft always.
+        EchoStair z = house("steps 24;flat 0 0;flat 4 0;flat 8 0;flat 12 0;flat 16 0;flat 20 0;"
+            + "person 1 1 1;person 1 1 1;person 1 1 1;person 1 1 1;person 1 1 1;person 0 1 1;"
+            + "walk 0 0 0 0;walk 1 0 4 4;walk 2 0 8 8;walk 3 0 12 12;walk 4 0 16 16;walk 5 0 20 20;"
+            + "carpet 0 1;carpet 4 1;carpet 8 1;carpet 12 1;carpet 16 1;carpet 20 1;"
+            + "change 0 1 0;change 1 2 0;change 2 3 0;change 3 4 0;change 4 60 0;");
+        answers("tells of six", n -> z.look(0, 10 + n), 1, 1, 1, 1, 1, 0, -2, -2, -2, -2);
+        answers("move of six", n -> z.look(0, 20 + n), 2, 2, 2, 2, 2, 2, -2, -2, -2, -2);
+        answers("hire of six", n -> z.look(0, 30 + n), 0, 0, 0, 0, 0, 0, -2, -2, -2, -2);
+        answers("late of six", n -> z.look(0, 40 + n), 1, 2, 3, 4, 60, 0, -2, -2, -2, -2);
     }
 
     private static void lookNone() {
@@ -914,8 +1067,9 @@ public final class PromiseEdgeTest {
         tell(y, 0, 0, "steps 6;person 1 1 1;person 0 1 4;");
         due("home of another house", y.home(0, 1, 1, 3, 10, 0, 0), 1);
         due("no treads", y.tread(0, NONE, 0), 0);
+        due("home of another house", y.home(0, 1, 1, 3, 10, 0, 0), 1);
         due("again(0)", y.again(0), true);
-        due("home", y.home(0, 1, 1, 3, 10, 0, 0), 2);
+        due("the same errand", y.home(0, 1, 1, 3, 10, 0, 0), 2);
         due("treads", y.tread(0, NONE, 0), 8);
     }
 
@@ -935,6 +1089,7 @@ public final class PromiseEdgeTest {
     }
 
     private static void ofTexts() {
+        constants();
         newObject();
         feedComes();
         feedFull();
@@ -942,6 +1097,8 @@ public final class PromiseEdgeTest {
         endRefused();
         textTakesTheTape();
         textIsTold();
+        nothingIsLeft();
+        houseByHouse();
         textWithAFault();
         textRefused();
         faultOfTheLatest();

@@ -112,6 +112,10 @@ public final class TermSoundTest {
             "heard 0 0 1 3;heard 0 0 1 4;heard 0 0 1 -;heard 0 0 1 1;");
         // Of shoe 4 there was none at first; of his own shoe there is himself.
         dueMakers(x, 1, 0, 1, 1);
+        EchoStair y = heard("flat 0 9;person 1 9 1;" + times(4, "person 2 9 1;") + "person 3 9 1;",
+            "heard 0 0 1 3;heard 0 0 1 4;");
+        // The sixth one has it; none of six has it.
+        dueMakers(y, 1, 0);
     }
 
     private static void madeWithHalf() {
@@ -167,6 +171,13 @@ public final class TermSoundTest {
         due("by one a minute", y.track(0, 0, 0), 17);
         EchoStair z = heard("steps 3;flat 0 9;person 1 1 1;", "heard 0 1 1 -;heard 0 0 1 -;heard 0 1 1 -;heard 0 0 1 -;");
         due("two in each of two minutes", z.track(0, 0, 0), 7);
+        // The last one told comes between two others.
+        EchoStair u = heard(stair, "heard 0 0 0 -;heard 2 40 0 -;heard 1 20 0 -;");
+        due("one between", u.track(0, 0, 0), 12);
+        dueSpots(u, 0, bits(0, 1), bits(22, 23), bits(11, 13));
+        EchoStair v = heard(stair, "heard 0 0 0 -;heard 2 80 0 -;heard 1 60 0 -;heard 0 40 0 -;heard 2 21 0 -;");
+        // From 1 to 22 in 21 minutes; 19 minutes later he is on 3 at the lowest, where flat 0 does not hear him.
+        due("too fast", v.track(0, 0, 0), 0);
     }
 
     private static void trackByRise() {
@@ -202,6 +213,11 @@ public final class TermSoundTest {
             bits(0, 1), bits(3, 5), bits(7, 9));
         dueSpots(heard("steps 24;flat 0 0;flat 4 9;flat 8 0;person 0 1 1;", "heard 0 0 0 -;heard 1 2 0 -;heard 2 6 0 -;"), 0,
             bits(1, 1), bits(3, 3), bits(7, 7));
+        // Ten of them, one a minute: he has to go one step each time to be on 9 in minute 8.
+        dueSpots(heard("steps 24;flat 0 0;flat 4 9;flat 10 0;person 0 1 1;carpet 0 1;carpet 11 1;",
+            "heard 0 0 0 -;heard 1 1 0 -;heard 1 2 0 -;heard 1 3 0 -;heard 1 4 0 -;heard 1 5 0 -;heard 1 6 0 -;heard 1 7 0 -;"
+            + "heard 2 8 0 -;heard 2 9 0 -;"), 0,
+            bits(1, 1), bits(2, 2), bits(3, 3), bits(4, 4), bits(5, 5), bits(6, 6), bits(7, 7), bits(8, 8), bits(9, 9), bits(9, 10));
     }
 
     private static void sure() {
@@ -292,12 +308,27 @@ public final class TermSoundTest {
     }
 
     private static void drawnEchoes() {
-        says("20 drawn, all NOTES: an ECHO is kept for KEEP minutes in a DRAWN evening, too");
+        // Of a drawn evening, too, NOTES have ECHOES, which are kept for KEEP minutes.
+        says("1: all NOTES of all FLATS");
         int[][] notes = {{0, 24}, {1, 26}, {2, 28}, {60, 32}, {99, 32}};
         for (int[] one : notes) {
             EchoStair x = house("steps 2;keep " + one[0] + ";carpet 0 1;carpet 1 1;flat 0 9;person 3 1 1;person 0 1 1;");
             dueDrawn(x, 7, 50, 34, on(0, 0), one[1]);
         }
+        // Half of loud 8 is heard from 4 off, so two of three flats hear some of the echoes alone.
+        StringBuilder carpets = new StringBuilder("steps 9;keep 99;");
+        for (int i = 0; i < 9; i++) {
+            carpets.append("carpet ").append(i).append(" 1;");
+        }
+        EchoStair y = house(carpets + "flat 8 0;flat 4 0;flat 0 9;person 0 9 1;person 0 1 2;");
+        dueDrawn(y, 1, 70, 66, on(0, 8), 43, 46, 46);
+        dueDrawn(y, 2, 70, 65, on(0, 2), 36, 46, 46);
+        dueDrawn(y, 4, 70, 60, on(5, 2), 37, 45, 45);
+        // One is loud in minute 0 alone: of his tread then, and of its echo, there are two notes at most.
+        EchoStair z = house("steps 2;keep 99;carpet 0 1;carpet 1 1;flat 0 9;person 9 1 1;person 0 1 1;change 0 1 0;");
+        dueDrawn(z, 1, 100, 57, on(1, 0), 2);
+        dueDrawn(z, 2, 100, 59, on(1, 0), 0);
+        dueDrawn(z, 4, 100, 62, on(0, 0), 2);
     }
 
     // Terms, 5
@@ -316,6 +347,7 @@ public final class TermSoundTest {
         EchoStair z = house("person 0 1 1;person 0 1 1;walk 0 0 0 0;walk 1 1 0 1;");
         due("the last", z.ring(0, 2), 1);
         due("the longest", z.ring(0, NONE), 2);
+        due("of one tread", house("person 0 1 1;walk 0 0 0 0;").ring(0, NONE), 1);
     }
 
     private static void meet() {
@@ -333,6 +365,9 @@ public final class TermSoundTest {
         due("both stay", house(two + "walk 0 0 3 3;walk 1 9 3 3;").meet(0, 0, 1, false), 9);
         due("one without a walk", house(two + "walk 0 0 3 5;").meet(0, 0, 1, false), NONE);
         due("both without a walk", house(two).meet(0, 0, 1, false), NONE);
+        String three = "steps 24;person 0 1 1;person 0 1 1;person 0 1 1;";
+        due("of the latter two", house(three + "walk 0 0 3 3;walk 1 0 3 3;walk 2 0 5 3;").meet(0, 1, 2, false), 2);
+        due("of the former two, never", house(three + "walk 0 0 1 1;walk 1 0 3 4;walk 2 0 3 4;").meet(0, 0, 1, false), NONE);
     }
 
     private static void pass() {
@@ -353,6 +388,7 @@ public final class TermSoundTest {
         // 1 stays on 8, 0 goes up over it, and from 23 down again: on 8 in 98, below it in the last minute.
         due("in the last minute", house(two + "walk 0 60 0 23 0;walk 1 60 8 8;").meet(0, 0, 1, true), 2);
         due("behind the last minute", house(two + "walk 0 60 0 23 0;walk 1 60 7 7;").meet(0, 0, 1, true), 1);
+        due("not in the first minute", house(two + "person 0 1 1;walk 0 0 9 9;walk 1 0 3 3;walk 2 0 5 5;").meet(0, 1, 2, true), 0);
     }
 
     private static void hollow() {
@@ -376,6 +412,11 @@ public final class TermSoundTest {
         due("the last one", house("person 0 1 1;person 0 1 1;walk 0 0 11 10;walk 1 0 11 11;").look(0, BUSY), 11);
         due("the first one", house("person 0 1 1;walk 0 0 1 0;").look(0, BUSY), 0);
         due("staying is no tread", house("person 0 1 1;walk 0 0 5 3 4;").look(0, BUSY), 4);
+        EchoStair x = house("flat 5 9;person 0 1 1;walk 0 0 1 1;");
+        due("the second one", x.look(0, BUSY), 1);
+        x.worth(0, NONE, 9);
+        x.look(0, MOVE);
+        due("the second one, behind other reckonings", x.look(0, BUSY), 1);
     }
 
     private static void hire() {
@@ -409,9 +450,43 @@ public final class TermSoundTest {
         due("cut by minute 99", house("steps 24;flat 0 9;person 9 9 1;walk 0 0 0 23 0;").look(0, LATE), 60);
         due("there in minute 99", house("steps 24;flat 0 9;person 9 9 1;walk 0 0 0 23 7;").look(0, LATE), 0);
         due("just cut", house("steps 24;flat 0 9;person 9 9 1;walk 0 0 0 23 6;").look(0, LATE), 60);
-        // The echo of another one is heard till minute 9; that of his own first tread always.
-        due("behind an echo", house("keep 9;carpet 0 1;flat 0 9;person 0 1 1;person 9 9 1;walk 0 0 0 0;walk 1 0 0 0;").look(0, LATE), 0);
-        due("behind his echo", house("keep 9;carpet 0 1;flat 0 9;person 9 9 1;person 0 1 1;walk 0 0 0 0;walk 1 0 0 0;").look(0, LATE + 1), 10);
+        due("a minute later", house(one + "change 0 1 0;").look(0, LATE), 1);
+        // He is heard on no step in shoe 0, on all in shoe 9, which he has in minutes 3 .. 29.
+        due("in each of his minutes", house("flat 11 0;carpet 10 1;carpet 11 1;person 0 1 1;walk 0 0 8 11;change 0 3 9;"
+            + "change 0 30 0;").look(0, LATE), 30);
+        // 185 treads, of which those on 0 and 1 are heard: but for the first two, not ahead of the 45th.
+        due("a long walk", house("steps 24;flat 0 0;person 0 1 1;walk 0 0 0 23 0 23 0 23 0 23 0;").look(0, LATE), 55);
+        EchoStair x = house("steps 24;flat 0 0;person 0 1 1;person 0 1 1;walk 0 0 0 23 0 23 0 23 0 23 0;walk 1 0 5 5;");
+        due("a long walk of another one", x.look(0, LATE), 55);
+        due("is not his", x.look(0, LATE + 1), 0);
+    }
+
+    private static void lateWithEchoes() {
+        says("so that all FLATS together have fewest NOTES of his TREADS");
+        // The echo of a higher number of the same minute is behind; one of a lower number is heard till minute 9.
+        due("ahead of an echo", house("keep 9;carpet 0 1;flat 0 9;person 0 1 1;person 9 9 1;walk 0 0 0 0;walk 1 0 0 0;").look(0, LATE), 0);
+        due("behind an echo", house("keep 9;carpet 0 1;flat 0 9;person 9 9 1;person 0 1 1;walk 0 0 0 0;walk 1 0 0 0;").look(0, LATE + 1), 10);
+        String soft = "steps 2;carpet 0 1;carpet 1 1;flat 0 9;";
+        // He goes to 1 in his second minute, where the echo is heard till minute 9.
+        due("an echo on his way", house("keep 9;" + soft + "person 0 1 1;person 9 9 1;walk 0 0 0 1;walk 1 0 1 1;").look(0, LATE), 9);
+        // The other one treads on 1, 0, 1 in minutes 0, 1, 2: the echo on 0 is heard till 10, that on 1 till 11.
+        due("two echoes on his way", house("keep 9;" + soft + "person 0 1 1;person 9 9 1;walk 0 0 0 1;walk 1 0 1 0 1;").look(0, LATE), 11);
+        // He is soft in minutes 6 and 7. If he begins in 5, he wakes his own tread of 5 in 7; if in 6, he is loud in 8.
+        String own = soft + "person 9 1 1;walk 0 0 0 1 0;change 0 6 0;change 0 8 9;";
+        due("his own echo", house("keep 2;" + own).look(0, LATE), 6);
+        due("his own echo is not kept", house("keep 1;" + own).look(0, LATE), 5);
+        // The other one is loud on 0 in minute 10. He is soft from 10 on; what he wakes in the end is the later tread.
+        String end = "walk 0 0 0 1 0;walk 1 10 0 0;";
+        due("of one minute, the higher number is later", house("keep 5;" + soft + "person 5 1 1;person 0 9 1;change 0 10 0;" + end)
+            .look(0, LATE), 16);
+        due("his own is later", house("keep 5;" + soft + "person 0 9 1;person 5 1 1;change 1 10 0;change 1 16 5;"
+            + "walk 1 0 0 1 0;walk 0 10 0 0;").look(0, LATE + 1), 10);
+        // From 7 up to 23 and down to 0 are 40 treads: whenever he begins, he wakes the other's one of minute 0, on step 0.
+        StringBuilder carpets = new StringBuilder("steps 24;keep 99;flat 0 9;person 0 1 1;person 9 9 1;walk 0 30 7 23 0;walk 1 0 0 0;");
+        for (int i = 0; i < 24; i++) {
+            carpets.append("carpet ").append(i).append(" 1;");
+        }
+        due("an echo in minute 99", house(carpets.toString()).look(0, LATE), 0);
     }
 
     private static void copy() {
@@ -443,6 +518,11 @@ public final class TermSoundTest {
         // The second tread is not loud, but its echo is: half of 8, heard up to 4. The first one is heard everywhere.
         due("by echoes, too", house("steps 6;flat 0 0;carpet 0 1;person 0 9 1;person 0 1 1;walk 0 0 0 0;walk 1 1 0 0;")
             .look(0, MOVE), 5);
+        due("what is not loud", house("steps 6;flat 5 0;carpet 0 1;person 0 1 1;walk 0 0 0 0;").look(0, MOVE), 0);
+        due("what is not loud, by a fine ear", house("steps 6;flat 5 4;carpet 0 1;person 0 1 1;walk 0 0 0 0;").look(0, MOVE), 0);
+        due("24 steps, heard everywhere", house("steps 24;flat 5 9;person 9 9 1;walk 0 0 23 23;").look(0, MOVE), 0);
+        due("24 steps, but for the lowest", house("steps 24;flat 5 9;person 9 5 1;walk 0 0 23 23;flat 5 8;").look(0, MOVE + 1), 0);
+        due("24 steps, the last", house("steps 24;flat 5 9;person 9 4 1;walk 0 0 0 0;").look(0, MOVE), 23);
     }
 
     private static void tells() {
@@ -486,6 +566,7 @@ public final class TermSoundTest {
         busy();
         hire();
         late();
+        lateWithEchoes();
         copy();
         move();
         tells();

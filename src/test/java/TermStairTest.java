@@ -208,6 +208,10 @@ public final class TermStairTest {
         due("there in minute 4", x.where(0, 0, 4), 6);
         due("and in minute 99", x.where(0, 0, 99), 6);
         due("his last tread", x.person(0, 0, 6), 3);
+        // The sixth of six, with eight goals.
+        EchoStair y = house(times(6, "person 0 1 4;") + "walk 5 0 0 1 2 3 4 5 6 7 8;");
+        due("treads", y.tread(0, NONE, 0), 9);
+        due("he stays on the eighth", y.where(0, 5, 99), 8);
     }
 
     private static void treadsInOrder() {
@@ -531,6 +535,10 @@ public final class TermStairTest {
         due("none is worth anything", house("steps 3;").worth(0, NONE, 9), 0);
         EchoStair y = house("steps 24;flat 23 0;person 0 1 1;walk 0 0 23 22 23;");
         due("the last one", y.worth(0, NONE, 1), 23);
+        EchoStair z = house("flat 0 9;person 0 1 1;walk 0 0 1 1;");
+        due("the second one", z.worth(0, NONE, 1), 1);
+        due("behind busy, which is another reckoning", z.look(0, 1), 1);
+        due("the second one again", z.worth(0, NONE, 1), 1);
     }
 
     public static void main(String[] args) {

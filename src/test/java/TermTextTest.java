@@ -242,6 +242,19 @@ public final class TermTextTest {
         fault(HOUSE, 1, "^z 3;");
         fault(HOUSE, 1, "^stepsz 3;");
         fault(HOUSE, 1, "^stepsa 3;");
+        for (String word : new String[] {"steps", "keep", "carpet", "flat", "person", "walk", "change"}) {
+            misspelt(HOUSE, word);
+        }
+        misspelt(READING, "heard");
+    }
+
+    /** With another letter in any place, without one, and with one more, it is no word of any text. */
+    private static void misspelt(int sort, String word) {
+        for (int i = 0; i < word.length(); i++) {
+            fault(sort, 1, "^" + word.substring(0, i) + "x" + word.substring(i + 1) + " 2 2 2 2;");
+            fault(sort, 1, "^" + word.substring(0, i) + word.substring(i + 1) + " 2 2 2 2;");
+        }
+        fault(sort, 1, "^" + word + word + " 2 2 2 2;");
     }
 
     private static void numbers() {
