@@ -346,26 +346,33 @@ public final class PromiseEdgeTest {
             + "walk 0 0 0 23 0 23 0 23 0 23 0;walk 1 0 0 23 0 23 0 23 0 23 0;walk 2 0 0 23 0 23 0 23 0 23 0;"
             + "walk 3 0 0 23 0 23 0 23 0 23 0;walk 4 0 0 23 0 23 0 23 0 23 0;walk 5 0 0 23 1 23 1 23 1 23 1;"
             + "change 0 9 1;change 1 9 1;change 2 9 1;change 3 9 1;carpet 1 9;carpet 22 9;";
-        String sounds = "heard 0 1 9 -;heard 1 2 9 9;heard 2 3 9 8;heard 3 4 9 -;heard 4 5 9 -;heard 5 6 9 -;";
+        String two = "steps 4;flat 0 9;person 9 9 4;person 9 9 4;walk 0 0 2 2;walk 1 1 2 2;";
         String[] soft = {"", "steps 3;flat 0 0;flat 2 0;person 0 1 1;person 1 1 1;walk 0 0 0 1;walk 1 1 1 1;",
-            "steps 4;keep 0;carpet 0 9;carpet 3 9;flat 3 1;person 4 2 1;person 0 3 1;person 0 3 1;walk 1 0 0 0;walk 2 60 3 2;"};
+            "steps 4;keep 0;carpet 0 9;carpet 3 9;flat 3 1;person 4 2 1;person 0 3 1;person 0 3 1;walk 1 0 0 0;walk 2 60 3 2;",
+            "steps 4;flat 0 9;person 9 9 4;person 1 1 4;walk 0 0 2 2;"};
         for (String text : soft) {
-            EchoStair fresh = house(text);
-            tell(fresh, 1, NONE, "heard 0 1 1 7;");
-            EchoStair used = house(loud);
-            tell(used, 1, NONE, sounds);
-            long[] former = askAll(used);
-            due("in its place", tell(used, 0, 0, text), 0);
-            due("in its place", tell(used, 1, 0, "heard 0 1 1 7;"), 0);
-            long[] want = askAll(fresh);
-            long[] got = askAll(used);
-            int others = 0;
-            for (int i = 0; i < want.length; i++) {
-                due("question " + i + " of all about " + text, got[i], want[i]);
-                others += former[i] == want[i] ? 0 : 1;
-            }
-            due("the former house was another one", others > 50, true);
+            dueNothingLeft(loud, text);
+            dueNothingLeft(two, text);
         }
+    }
+
+    /** All answers about a house in the place of a former one are those about the same house in a new object. */
+    private static void dueNothingLeft(String former, String text) {
+        EchoStair fresh = house(text);
+        tell(fresh, 1, NONE, "heard 0 1 1 7;");
+        EchoStair used = house(former);
+        tell(used, 1, NONE, "heard 0 1 9 -;heard 1 2 9 9;heard 2 3 9 8;heard 3 4 9 -;heard 4 5 9 -;heard 5 6 9 -;");
+        long[] before = askAll(used);
+        due("in its place", tell(used, 0, 0, text), 0);
+        due("in its place", tell(used, 1, 0, "heard 0 1 1 7;"), 0);
+        long[] want = askAll(fresh);
+        long[] got = askAll(used);
+        int others = 0;
+        for (int i = 0; i < want.length; i++) {
+            due("question " + i + " of all about " + text, got[i], want[i]);
+            others += before[i] == want[i] ? 0 : 1;
+        }
+        due("the former house was another one", others > 20, true);
     }
 
     private static void houseByHouse() {
@@ -715,6 +722,25 @@ public final class PromiseEdgeTest {
         due("there is none behind it", y.thief(0, 0, 0, 1, 0, 70), NONE);
     }
 
+    private static void errandsInARow() {
+        says("12: int home(int house, int person, int from, int to, int minute, int flats, int what)");
+        // Each errand differs from the one ahead of it in one thing, and so does its answer.
+        EchoStair x = house("flat 0 0;flat 11 0;person 0 1 1;person 9 1 4;change 1 5 0;");
+        due("a second house", tell(x, 0, NONE, "flat 0 0;flat 11 0;person 0 1 2;person 9 1 4;change 1 5 0;"), 1);
+        due("home", x.home(0, 0, 4, 8, 0, 0, 0), 4);
+        due("in another house", x.home(1, 0, 4, 8, 0, 0, 0), 2);
+        due("of another one", x.home(1, 1, 4, 8, 0, 0, 0), 1);
+        due("from another step", x.home(1, 1, 3, 8, 0, 0, 0), 2);
+        due("to another step", x.home(1, 1, 3, 4, 0, 0, 0), 1);
+        due("by other flats", x.home(1, 1, 3, 4, 0, 1, 0), 5);
+        due("in another minute", x.home(1, 1, 3, 4, 4, 1, 0), 1);
+        due("to where he is heard", x.home(1, 1, 3, 1, 4, 1, 0), NONE);
+        due("a thief", x.thief(1, 1, 3, 1, 4, 0), 1);
+        due("home by all flats", x.home(1, 1, 3, 1, 4, 3, 0), NONE);
+        due("a thief again", x.thief(1, 1, 3, 1, 4, 0), 1);
+        due("home by the other flat", x.home(1, 1, 3, 1, 4, 2, 0), 1);
+    }
+
     private static void thiefNone() {
         says("13: NONE: as home().");
         EchoStair h = stair();
@@ -1059,6 +1085,23 @@ public final class PromiseEdgeTest {
         tell(x, 0, 0, "keep 50;");
         due("what is told later does not change an image", x.again(2), true);
         due("keep", x.house(0, 1), 3);
+        // Nor does what comes behind an again(): the tape, the reading and the fault of the image are its own.
+        EchoStair t = new EchoStair();
+        tell(t, 1, NONE, "heard 0 0 0 -;");
+        tell(t, 1, NONE, "heard");
+        give(t, "keep 12;");
+        t.image(0);
+        for (int i = 0; i < 2; i++) {
+            due("again(0)", t.again(0), true);
+            due("its fault", t.fault(0), 1);
+            due("its place", t.fault(1), 5);
+            due("its sounds", t.sound(0, NONE, 0), 1);
+            dueSize(t, 8);
+            due("its tape", t.text(0, NONE), 0);
+            due("keep", t.house(0, 1), 12);
+            tell(t, 1, 0, "");
+            give(t, "steps 3;steps 3;");
+        }
         // What was reckoned of the later house is not answered of the former one.
         EchoStair y = stair();
         y.image(0);
@@ -1121,6 +1164,7 @@ public final class PromiseEdgeTest {
         homeTold();
         homeNone();
         thiefTold();
+        errandsInARow();
         thiefNone();
         apartTold();
         apartNone();

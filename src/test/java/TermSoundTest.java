@@ -481,6 +481,14 @@ public final class TermSoundTest {
             .look(0, LATE), 16);
         due("his own is later", house("keep 5;" + soft + "person 0 9 1;person 5 1 1;change 1 10 0;change 1 16 5;"
             + "walk 1 0 0 1 0;walk 0 10 0 0;").look(0, LATE + 1), 10);
+        due("the other's is later", house("keep 5;" + soft + "person 5 1 1;person 0 9 1;change 0 10 0;walk 0 0 0 1 0;walk 1 11 0 0;")
+            .look(0, LATE), 17);
+        due("his own is later, in minute 0", house("keep 99;" + soft + "person 0 9 1;person 0 1 1;walk 0 0 0 0;walk 1 0 0 1 0;")
+            .look(0, LATE + 1), 0);
+        // Half of loud 8 is heard from 4 off, and not from 5.
+        String far = "keep 9;carpet 0 1;person 0 9 1;person 0 1 1;walk 0 0 0 0;walk 1 0 0 0;";
+        due("half of it is heard", house(far + "flat 4 0;").look(0, LATE + 1), 10);
+        due("half of it is not heard", house(far + "flat 5 0;").look(0, LATE + 1), 0);
         // From 7 up to 23 and down to 0 are 40 treads: whenever he begins, he wakes the other's one of minute 0, on step 0.
         StringBuilder carpets = new StringBuilder("steps 24;keep 99;flat 0 9;person 0 1 1;person 9 9 1;walk 0 30 7 23 0;walk 1 0 0 0;");
         for (int i = 0; i < 24; i++) {

@@ -455,6 +455,8 @@ public final class TermStairTest {
         dueThief(y, errand(0, 0, 1, 4, 0), 0, 1);
         dueThief(house("steps 9;keep 99;carpet 1 1;flat 8 0;flat 2 0;person 0 1 1;person 0 4 1;walk 1 0 1 1;"),
             errand(0, 0, 1, 1, 1), 1);
+        // By 4 and 2 two treads are heard, by 3 it were three; from 3 to 0 at once he can't go.
+        dueThief(house("steps 7;flat 0 2;person 0 1 2;"), errand(0, 5, 0, 0, 2), 4, 2, 0);
         // Four at once make fewer treads than one by one.
         dueThief(house("flat 6 9;person 0 9 4;"), errand(0, 0, 9, 0, 3), 1, 5, 9);
     }
