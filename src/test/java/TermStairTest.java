@@ -353,6 +353,14 @@ public final class TermStairTest {
         due("without a row", x.home(0, 0, 1, 1, 0, 1, 10), NONE);
         dueHome(house("steps 24;person 0 1 1;"), errand(0, 0, 23, 0, 0),
             1, 2, 3, 4, 5, 6, 7, 8, 9, 10, 11, 12, 13, 14, 15, 16, 17, 18, 19, 20, 21, 22, 23);
+        // As many steps and minutes as there may be: he is heard on 1, waits on 2, and goes to 0 in minute 100.
+        EchoStair y = house("steps 24;keep 99;carpet 0 1;flat 0 0;person 0 1 4;person 0 9 1;walk 1 0 0 0;");
+        int[] row = stay(60, 2);
+        int[] down = {19, 15, 11, 7, 3};
+        System.arraycopy(down, 0, row, 0, down.length);
+        row[59] = 0;
+        dueHome(y, errand(0, 23, 0, 40, 1), row);
+        dueNoHome(y, errand(0, 23, 0, 39, 1));
     }
 
     private static void homeUnheard() {
