@@ -44,9 +44,6 @@ public final class EchoStair {
     private final Witness witness = new Witness();
 
     public EchoStair() {
-        for (int i = 0; i < MOST_TEXTS; i++) {
-            evenings[i] = new Evening(told.houses[i]);
-        }
     }
 
     public int feed(int a, int b, int c, int d, int e) {
@@ -105,8 +102,7 @@ public final class EchoStair {
         if (sort == HOUSES) {
             told.houses[number].copyFrom(reader.house);
             told.houseCount = Math.max(told.houseCount, number + 1);
-            evenings[number].fresh = false;
-            route.forget();
+            forgetEvening(number);
         } else {
             told.readings[number].copyFrom(reader.reading);
             told.readingCount = Math.max(told.readingCount, number + 1);
@@ -446,10 +442,17 @@ public final class EchoStair {
         }
         told.copyFrom(images[k]);
         for (int i = 0; i < MOST_TEXTS; i++) {
-            evenings[i].fresh = false;
+            forgetEvening(i);
+        }
+        return true;
+    }
+
+    /** What was worked out of a house is no longer true once another one stands in its place. */
+    private void forgetEvening(int house) {
+        if (evenings[house] != null) {
+            evenings[house].fresh = false;
         }
         route.forget();
-        return true;
     }
 
     private House houseAt(int house) {
@@ -461,8 +464,13 @@ public final class EchoStair {
     }
 
     private Evening eveningAt(int house) {
-        if (houseAt(house) == null) {
+        House h = houseAt(house);
+        if (h == null) {
             return null;
+        }
+        // The widest rows of all, so they are made only for a house that is asked about, and then used again.
+        if (evenings[house] == null) {
+            evenings[house] = new Evening(h);
         }
         if (!evenings[house].fresh) {
             evenings[house].walkAll();

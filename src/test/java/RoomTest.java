@@ -9,8 +9,8 @@ import java.util.IdentityHashMap;
 import java.util.Set;
 
 /**
- * All calls of a run live in one room, so calls make no objects, but for an image's first, and any arguments in any
- * state are answered without a throw of the machine.
+ * All calls of a run live in one room, so calls make no objects, but for an image's first and the first question about
+ * a house's evening, and any arguments in any state are answered without a throw of the machine.
  */
 public final class RoomTest {
     private static final int[] EDGES = {Integer.MIN_VALUE, Integer.MIN_VALUE + 9, -101, -11, -2, -1, 0, 1, 2, 5, 6, 9, 10, 15,
@@ -82,6 +82,7 @@ public final class RoomTest {
     private static void calls() {
         EchoStair x = full();
         call(x, 0);
+        call(x, 1);
         long before = allocated();
         for (int i = 0; i < 20; i++) {
             call(x, 0);
@@ -127,13 +128,33 @@ public final class RoomTest {
         }
     }
 
+    /** A house's evening is made when it is first asked for, and used again by a later house in its place. */
+    private static void evenings() throws Exception {
+        EchoStair x = full();
+        long told = size(x)[0];
+        check(x.house(0, 0) == 24 && x.sound(0, -1, 0) == 10 && size(x)[0] == told, "what is told needs no evening");
+        check(x.tread(1, -1, 0) == 549, "treads of house 1");
+        long one = size(x)[0];
+        check(x.tread(0, -1, 0) == 549, "treads of house 0");
+        long both = size(x)[0];
+        check(one > told && both - one == one - told, "an evening for each house that is asked about");
+        check(tell(x, 0, 1, "person 1 1 1;walk 0 0 0 3;") == 1 && x.tread(1, -1, 0) == 4, "another house in its place");
+        check(x.tread(0, -1, 0) == 549, "the first one stays");
+        check(x.again(2) && x.tread(1, -1, 0) == 549 && size(x)[0] == both, "no further evening");
+    }
+
     public static void main(String[] args) throws Exception {
         edges();
         calls();
+        evenings();
         long[] fresh = size(new EchoStair());
-        long[] most = size(full());
-        System.out.println("a new object holds " + fresh[0] + " objects, " + fresh[1] + " elements; with all images "
+        EchoStair asked = full();
+        call(asked, 0);
+        call(asked, 1);
+        long[] most = size(asked);
+        System.out.println("a new object holds " + fresh[0] + " objects, " + fresh[1] + " elements; with all images and evenings "
             + most[0] + " and " + most[1] + " (" + sum + ")");
+        check(512 * fresh[0] < 600000 && 512 * fresh[1] < 7300000, "a run may make an object with each of its calls");
         check(most[0] < 400 && most[1] < 40000, "an object is small");
         if (wrong != 0) {
             System.exit(1);
